@@ -7,7 +7,7 @@ import java.util.Arrays;
 public final class UnnestPlans {
     public static final int NONE = -1, BAD = -2, NOT = -3, FULL = -4;
 
-    private static final int OUTER_TEXT = 0, INNER_TEXT = 1, STEPS_TEXT = 2, TEXTS = 3;
+    private static final int OUTER_TEXT = 0, INNER_TEXT = 1, STEPS_TEXT = 2, TABLES = 2, TEXTS = 3;
     private static final int TABLE_BYTES = 29, STEPS_BYTES = 12, MOST_BYTE = 255;
     private static final int MOST_ROWS = 10, MOST_STEPS = 12;
 
@@ -105,7 +105,7 @@ public final class UnnestPlans {
     }
 
     public int row(int table, int row, int what) {
-        if (!within(table, STEPS_TEXT) || !within(what, 2) || !within(row, tableOf(table).size)) {
+        if (!within(table, TABLES) || !within(what, 2) || !within(row, tableOf(table).size)) {
             return BAD;
         }
         return what == 0 ? tableOf(table).keys[row] : tableOf(table).values[row];
@@ -1013,12 +1013,14 @@ public final class UnnestPlans {
         /** In the order of the plan, because what one step hands on late may be kept by a later one. */
         private void handOnKept() {
             for (int place = 1; place < course.size; place++) {
-                int n = course.codes[place] == UNION ? pairs.size
-                        : course.codes[place] == GROUP ? kept.sizes[place] : 0;
-                for (int i = 0; i < n && arrived < wanted; i++) {
+                int code = course.codes[place];
+                for (int i = 0; code == UNION && i < pairs.size && arrived < wanted; i++) {
                     report.handedOn++;
-                    feed(course.codes[place] == GROUP ? kept.rows[place][i]
-                            : packed(pairs.keys[i], pairs.values[i], i), place + 1);
+                    feed(packed(pairs.keys[i], pairs.values[i], i), place + 1);
+                }
+                for (int i = 0; code == GROUP && i < kept.sizes[place] && arrived < wanted; i++) {
+                    report.handedOn++;
+                    feed(kept.rows[place][i], place + 1);
                 }
             }
         }
