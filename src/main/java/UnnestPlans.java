@@ -65,7 +65,7 @@ public final class UnnestPlans {
     // ---- texts
 
     public int type(int text, int b) {
-        if (!within(text, TEXTS) || b < 0 || b > MOST_BYTE) {
+        if (!within(text, TEXTS) || !isByte(b)) {
             return BAD;
         }
         if (!texts[text].append(b)) {
@@ -291,10 +291,7 @@ public final class UnnestPlans {
         if (sheets[s].isLost()) {
             return found(NULL);
         }
-        int taken = 0;
-        while (taken < sheets[s].size && texts[text].append(sheets[s].items[taken] & MOST_BYTE)) {
-            taken++;
-        }
+        int taken = texts[text].appendFrom(sheets[s]);
         understand(text);
         return taken;
     }
@@ -335,6 +332,10 @@ public final class UnnestPlans {
 
     private static boolean within(int i, int n) {
         return i >= 0 && i < n;
+    }
+
+    private static boolean isByte(int b) {
+        return b >= 0 && b <= MOST_BYTE;
     }
 
     private static boolean isPlan(int plan) {
@@ -505,6 +506,16 @@ public final class UnnestPlans {
             bytes[size] = b;
             size++;
             return true;
+        }
+
+        /** How many items came: behind one that is no byte none may, as behind the last place. */
+        int appendFrom(Sheet sheet) {
+            for (int i = 0; i < sheet.size; i++) {
+                if (!isByte(sheet.items[i]) || !append(sheet.items[i])) {
+                    return i;
+                }
+            }
+            return sheet.size;
         }
     }
 

@@ -618,7 +618,7 @@ public final class PromiseTests {
     due("row(0, 1, 0)", x.row(0, 1, 0), 3);
     due("row(0, 1, 1)", x.row(0, 1, 1), -1);
     x.sheet(1, 2, 20);
-    for (int i = 0; i < 20; i++) x.put(1, 2, i, 256 + 'd');
+    for (int i = 0; i < 20; i++) x.put(1, 2, i, 'd');
     due("read(2, 1), as many as may", x.read(2, 1), 12);
     due("count(2)", x.count(2), 12);
     due("read(2, 1), full", x.read(2, 1), 0);
@@ -626,7 +626,7 @@ public final class PromiseTests {
     x.sheet(1, 1, 0);
     due("read, empty", x.read(1, 1), 0);
     x.sheet(1, 1, 1);
-    x.put(1, 1, 0, -1);
+    x.put(1, 1, 0, 255);
     due("read(1, 1)", x.read(1, 1), 1);
     due("fault(1)", x.fault(1), 0);
     long digest = x.digest();
@@ -639,6 +639,38 @@ public final class PromiseTests {
     due("read(0, 3)", x.read(0, 3), -11);
     due("count(8)", x.count(8), 1);
     changesNothing("refused reading", x, digest);
+  }
+
+  /** Items 12;34 but for one of them: those ahead of it come, none behind it. */
+  private static void readingTillNoByte(int form, int at, int item, int want) {
+    UnnestPlans x = new UnnestPlans();
+    x.sheet(0, form, 5);
+    for (int i = 0; i < 5; i++) x.put(0, form, i, "12;34".charAt(i));
+    x.put(0, form, at, item);
+    String call = "read of form " + form + ", item " + at + " is " + item;
+    due(call, x.read(1, 0), want);
+    due(call + ", count(4)", x.count(4), want);
+    if (want < 5) due(call + ", count(1)", x.count(1), want == 2 ? 1 : 0);
+    due(call + ", count(8)", x.count(8), 0);
+    due(call + ", the item stays", x.get(0, form, at), form == 0 ? (byte) item : form == 1 ? (short) item : item);
+  }
+
+  private static void readingNoBytes() {
+    int[] none = {-1, -128, -32768, 256, 256 + '3', 32767, LEAST_INT, Integer.MAX_VALUE, 65536 + '3'};
+    for (int at = 0; at < 5; at++) {
+      for (int item : none) {
+        readingTillNoByte(2, at, item, at);
+        int asShort = (short) item, asByte = (byte) item;
+        readingTillNoByte(1, at, item, asShort < 0 || asShort > 255 ? at : 5);
+        readingTillNoByte(0, at, item, asByte < 0 ? at : 5);
+      }
+      // The lowest bits that a byte has of 128 and 255 are below 0.
+      for (int item : new int[] {0, 127, 128, 255}) {
+        readingTillNoByte(0, at, item, item > 127 ? at : 5);
+        readingTillNoByte(1, at, item, 5);
+        readingTillNoByte(2, at, item, 5);
+      }
+    }
   }
 
   private static void counts() {
@@ -733,7 +765,7 @@ public final class PromiseTests {
     promise = 22; getting();
     promise = 23; copying();
     promise = 24; writing();
-    promise = 25; reading();
+    promise = 25; reading(); readingNoBytes();
     promise = 26; counts();
     promise = 27; digests();
     System.out.println(wrong == 0 ? "promises 1 to 27: all answers are as due" : wrong + " answers are not as due");
