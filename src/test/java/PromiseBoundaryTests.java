@@ -25,10 +25,6 @@ public final class PromiseBoundaryTests extends Sentences {
         new Asked().due(NULL, "read", 0, s);
       }
     });
-    promise(1, "A new object is like any other new one", () -> {
-      Start.ALL_FULL.get();
-      dueAlike("two new objects", Asked::new, () -> new Asked(), 0, 1, 2, 3, 4, 5, 6, 7, 8);
-    });
   }
 
   private static void type() {
@@ -50,6 +46,11 @@ public final class PromiseBoundaryTests extends Sentences {
     });
     promise(2, "FULL", () -> {
       for (int text = 0; text < 3; text++) for (int b : new int[] {0, 255, ';', 'e', '1'}) refused(Start.ALL_FULL, FULL, "type", text, b);
+      // Bytes with which it cannot go on fill a text as well.
+      for (int text = 0; text < 3; text++) {
+        Asked x = new Asked().type(text, times(ROOM[text], "x")).due(FULL, "type", text, 'x').due(0, "fault", text);
+        x.due(ROOM[text], "count", 4).due(ROOM[text] - 1, "undo", text).due(ROOM[text], "type", text, 0);
+      }
     });
   }
 
@@ -81,6 +82,10 @@ public final class PromiseBoundaryTests extends Sentences {
     promise(4, "NOT: it is empty", () -> {
       for (int text = 0; text < 3; text++) {
         refused(Start.NEW, NOT, "undo", text);
+        refused(Start.NO_TEXTS, NOT, "undo", text);
+        int empty = text;
+        Supplier<Asked> others = () -> asked(empty == 0 ? "" : "12", empty == 1 ? "" : "12;34", empty == 2 ? "" : "ed", SUM);
+        dueAlike("others", others, () -> others.get().due(NOT, "undo", empty), 0, 1, 2, 3, 8);
         new Asked().type(text, "1").due(0, "undo", text).due(NOT, "undo", text).due(NOT, "undo", text).due(1, "type", text, '1');
       }
     });
@@ -223,6 +228,7 @@ public final class PromiseBoundaryTests extends Sentences {
       asked("12;34;1-", "12;1-", "e", NOT_IN).due(0 + 1, "total");
       asked("12;34;1-", "12;1-", "e", IN).due(1 + 0, "total");
       asked(rows(10, "99"), rows(10, "99"), times(12, "m"), SUM).due(11700, "total");
+      asked(rows(10, "99"), rows(10, "99"), "u" + times(11, "m"), SUM).due(11880, "total");
       asked(rows(10, "99"), rows(10, "99"), times(12, "u"), COUNT).due(220, "total");
       asked("", TEN, "", COUNT).due(0, "total");
     });
@@ -333,8 +339,10 @@ public final class PromiseBoundaryTests extends Sentences {
         most.due(ofMost[plan][what], "cost", plan, what);
         error.due(ofError[plan][what], "cost", plan, what);
       }
-      none.call("wipe", 2);
-      none.due(1, "cost", 1, 3).due(1, "cost", 1, 2).due(1, "cost", 1, 0);
+      // What an earlier question cost is no longer told.
+      for (int text = 0; text < 3; text++) most.call("wipe", text);
+      most.type(1, "12").type(2, "l");
+      for (int plan = 0; plan < 2; plan++) for (int what = 0; what < 5; what++) most.due(ofNone[plan][what], "cost", plan, what);
     });
     promise(16, "BAD: no such plan", () -> {
       for (int what = 0; what < 5; what += 4) badAround(0, 1, 0, "cost", 0, what);

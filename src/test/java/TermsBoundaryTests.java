@@ -280,6 +280,7 @@ public final class TermsBoundaryTests extends Sentences {
     dueOfRows("1-;1-", LEAST, NONE);
     dueOfRows("10;1-", LEAST, 0);
     dueOfRows("19;10", LEAST, 0);
+    dueOfRows("10;19", LEAST, 0);
     dueOfRows("1-;19;18", LEAST, 8);
     dueAnswers("99", "99", times(12, "m"), LEAST, 117);
   }
@@ -289,6 +290,7 @@ public final class TermsBoundaryTests extends Sentences {
     dueOfRows("1-;1-", GREATEST, NONE);
     dueOfRows("10;1-", GREATEST, 0);
     dueOfRows("10;19", GREATEST, 9);
+    dueOfRows("19;10", GREATEST, 9);
     dueOfRows("1-;18;17", GREATEST, 8);
     dueAnswers("99", "99", times(12, "m"), GREATEST, 117);
   }
@@ -303,8 +305,25 @@ public final class TermsBoundaryTests extends Sentences {
     dueAverage("10;10;11", 1f / 3f);
     dueAverage("19;19;18", 26f / 3f);
     dueAnswers("12", "10;10;10;10;10;10;10;10;10;11", "", AVERAGE, bits(1f / 10f));
+    for (int n = 1; n <= 10; n++) for (int sum = 0; sum <= 9 * n; sum++) {
+      asked("12", withSum(n, sum), "", AVERAGE).due(bits((float) sum / (float) n), "answer", 0, 0);
+    }
+    // Whole powers of two, and what stands next to them.
+    for (int times = 0; times <= 12; times++) for (int v = 0; v <= 9; v++) for (int k = 1; k <= 9; k += 4) {
+      dueAnswers(k + "1", "1" + v, times(times, "m"), AVERAGE, bits(v + times * k));
+    }
     dueAnswers("91", "99", times(12, "m"), AVERAGE, bits(117f));
     dueAnswers("91", rows(10, "10"), times(12, "u"), AVERAGE, bits(12f / 22f));
+  }
+
+  private static String withSum(int n, int sum) {
+    String[] all = new String[n];
+    int left = sum;
+    for (int i = 0; i < n; i++) {
+      all[i] = "1" + Math.min(left, 9);
+      left -= Math.min(left, 9);
+    }
+    return String.join(";", all);
   }
 
   /** Neither an answer nor the error depends on which plan it is. */
@@ -414,6 +433,10 @@ public final class TermsBoundaryTests extends Sentences {
     x.dueAnswers(1, 2, 2, 2, 2, 2, 2, 2, 2, 2, 2).dueCosts(1, 3, 3 + 2 + 2 + 2).dueCosts(0, 30, 90);
     Asked y = asked(TEN, "12;12", "", ONLY).dueDomain().duePlan(0).due(0, "error", 1).due(0, "error", 0);
     y.dueCosts(1, 2, 2);
+    // Also if an earlier question had one answer for each pair.
+    Asked z = asked(TEN, "12;12;3-", "ed", COUNT).dueAnswers(1, 0, 1, 0, 1, 0, 0, 0, 0, 0, 0);
+    z.call("wipe", 2);
+    z.dueDomain().dueAnswers(1, 3, 3, 3, 3, 3, 3, 3, 3, 3, 3);
     asked("", "12;12", "", ONLY).dueDomain().duePlan(0).due(NONE, "error", 1).due(NONE, "error", 0).dueCosts(1, 2, 2);
   }
 
@@ -462,6 +485,16 @@ public final class TermsBoundaryTests extends Sentences {
     asked("12;13", "15", "eu", COUNT).duePlan(0, 9, 4).dueCosts(1, 1, 1 + 2 + 2 + 2).dueAnswers(1, 2, 2);
   }
 
+  private static void byThePairsKey() {
+    // Behind a step that joins every row with every pair, a MISSING K and the least and greatest one.
+    dueAnswers("--;0-;9-;5-", "05;95;-5;55", "me", COUNT, 0, 1, 1, 1);
+    dueAnswers("--;0-;9-;5-", "05;95;-5;55", "ml", COUNT, 0, 0, 2, 1);
+    dueAnswers("--;0-;9-;5-", "05", "mm", SUM, NONE, 5, 23, 15);
+    dueAnswers("-7;07;97;57", "", "ue", SUM, NONE, 7, 7, 7);
+    dueAnswers("-7;07;97;57", "", "um", SUM, NONE, 7, 16, 12);
+    dueAnswers("-7;07;97;57", "", "ul", COUNT, 0, 0, 0, 0);
+  }
+
   private static void goTogether() {
     dueAnswers("1-;2-;0-", "09;09", "ld", COUNT, 1, 1, 0);
     dueAnswers("1-;2-;0-", "09;09", "lg", COUNT, 1, 1, 0);
@@ -469,6 +502,16 @@ public final class TermsBoundaryTests extends Sentences {
     dueAnswers("12;13;12", "12;13", "ud", COUNT, 2, 2, 2);
     dueAnswers("12;13;12", "12;13", "ug", SUM, 3, 3, 3);
     asked("1-;2-;0-", "09;09", "ld", COUNT).dueCosts(1, 2, 2 + 6 + 4 + 2);
+    // Ten pairs with as many rows as there can be, each twice, and each with a K of its own.
+    int[] five = {5, 5, 5, 5, 5, 5, 5, 5, 5, 5}, ten = {10, 10, 10, 10, 10, 10, 10, 10, 10, 10};
+    dueAnswers(TEN, "01;12;23;34;45;01;12;23;34;45", "md", COUNT, five);
+    dueAnswers(TEN, "01;12;23;34;45;01;12;23;34;45", "mg", COUNT, five);
+    dueAnswers(TEN, "01;12;23;34;45;01;12;23;34;45", "mg", SUM, ten);
+    dueAnswers(TEN, TEN, "md", COUNT, ten);
+    dueAnswers(TEN, TEN, "mgg", SUM, ten);
+    dueAnswers(TEN, TEN, times(11, "u") + "d", COUNT, ten);
+    dueAnswers(TEN, TEN, times(11, "u") + "g", COUNT, ten);
+    dueAnswers(TEN, TEN, times(11, "u") + "g", GREATEST, 12, 12, 12, 12, 12, 12, 12, 12, 12, 12);
     asked("1-;2-;0-", "09;09", "lg", COUNT).dueCosts(1, 2, 2 + 6 + 4 + 2);
   }
 
@@ -519,6 +562,7 @@ public final class TermsBoundaryTests extends Sentences {
     terms("Then comes THE JOIN: each ROW with each pair, pair by pair for each ROW", TermsBoundaryTests::join);
     terms("if that first STEP is EQUAL, it is THE JOIN at the same time: a ROW with that pair whose K it has, if there is any",
         TermsBoundaryTests::joinOfEqual);
+    terms("The STEPS behind are done with ROWS that have a pair: EQUAL, LESS, MORE by its K", TermsBoundaryTests::byThePairsKey);
     terms("by DISTINCT, GROUP those of one pair go together, others not", TermsBoundaryTests::goTogether);
     terms("by UNION behind all others each pair comes as a ROW of its own, in order", TermsBoundaryTests::unionOfPairs);
     terms("By END there is an ANSWER (or an ERROR) for each pair, also for one with no ROWS", TermsBoundaryTests::pairsWithNoRows);
@@ -593,6 +637,7 @@ public final class TermsBoundaryTests extends Sentences {
       asked("12", inner, "", ONLY).dueCosts(0, read[n], read[n]).dueCosts(1, n, n);
       asked("12", inner, "e", ONLY).dueCosts(0, read[n], 2 * read[n]).dueCosts(1, n, 2 * n);
     }
+    asked("12", "1-;1-;1-", "e", ONLY).dueCosts(0, 2, 4).dueCosts(1, 3, 6);
     asked("12", "15;11;16;17", "f5", ONLY).dueCosts(0, 3, 3 + 2).dueCosts(1, 4, 4 + 3);
     asked("12", "15;16", "u", ONLY).dueCosts(0, 2, 2 + 2);
     asked("12", "15", "u", ONLY).dueCosts(0, 1, 1 + 2);
@@ -607,6 +652,7 @@ public final class TermsBoundaryTests extends Sentences {
       asked("12;12", inner, "", EXISTS).dueCosts(0, 2 * read[n], 2 * read[n]).dueCosts(1, n, n);
       asked("12;12", inner, "e", EXISTS).dueCosts(0, 2 * read[n], 4 * read[n]).dueCosts(1, n, 2 * n);
     }
+    asked("12", "1-;1-;1-", "e", EXISTS).dueCosts(0, 1, 2).dueCosts(1, 3, 6);
     asked("12", "31;32;15", "e", EXISTS).dueCosts(0, 3, 3 + 1);
     asked("12", "31;32;45", "e", EXISTS).dueCosts(0, 3, 3);
   }
@@ -789,6 +835,22 @@ public final class TermsBoundaryTests extends Sentences {
     refused(Start.IN_ERROR, NOT, "write", 0, 3);
   }
 
+  /** Each kind of refusal, one behind another; the last one is a finding, INDEX or NULL. */
+  private static Asked refusedOften(Asked x) {
+    x.due(BAD, "type", 3, 0).due(BAD, "type", 0, 256).due(BAD, "wipe", -1).due(BAD, "undo", 3).due(BAD, "end", 9).due(BAD, "sheet", 0, 0, 61);
+    x.due(BAD, "lose", 4).due(BAD, "put", 0, 3, 0, 1).due(BAD, "copy", 0, 0, 4, 0, 0).due(BAD, "write", 2, 0).due(BAD, "read", 0, 4);
+    x.due(BAD, "error", 2).due(BAD, "answer", 0, 10).due(BAD, "domain", 10, 0).due(BAD, "plan", 20).due(BAD, "log", 0, 200).due(BAD, "count", 9);
+    x.due(LEAST_INT, "get", 4, 0, 0).due(SIZE, "sheet", 0, 0, -1).due(5, "count", 8);
+    long last = x.call("put", 0, 2, -1, 9);
+    return x.due(-10 - last, "count", 8);
+  }
+
+  private static void changeNothing() {
+    for (Start start : Start.values()) {
+      dueAlike("refused often from " + start, start::get, () -> refusedOften(start.get()), 0, 1, 2, 3, 4, 5, 6, 7, 8);
+    }
+  }
+
   private static void sheets() {
     terms("SHEETS 0 .. 3 are LOST (at first) or a row of a FORM: 0 bytes, 1 shorts, 2 ints", TermsBoundaryTests::lostOrARow);
     terms("of 0 to 60 items (0 at first)", TermsBoundaryTests::itemsAtFirst);
@@ -800,6 +862,7 @@ public final class TermsBoundaryTests extends Sentences {
     terms("FINDINGS (answers -10 less the number; they change nothing but count() 8)", TermsBoundaryTests::latestFinding);
     terms("Refusals, the first that fits, in the order told at each act: BAD -2 (a number not as told, no such thing), NULL, NOT -3 (as told), FULL -4, other FINDINGS",
         TermsBoundaryTests::firstThatFits);
+    terms("They change nothing (FINDINGS but count() 8)", TermsBoundaryTests::changeNothing);
   }
 
   public static void main(String[] args) {

@@ -222,9 +222,10 @@ class Sentences {
 
   // ---- refusals
 
-  /** Where a refused call may come: nothing told, ordinary, all full, all texts with a FAULT, an ERROR. */
+  /** Where a refused call may come: new, no texts, ordinary, all full, all texts with a FAULT, an ERROR. */
   enum Start {
     NEW(Asked::new),
+    NO_TEXTS(Sentences::noTexts),
     ORDINARY(Sentences::ordinary),
     ALL_FULL(Sentences::allFull),
     FAULTY(Sentences::faulty),
@@ -243,6 +244,13 @@ class Sentences {
     Asked get() {
       return made.get();
     }
+  }
+
+  /** The END is another one than at first, sheets 0 of bytes, 1 of shorts, 2, 3 of ints; the latest finding is STORE. */
+  private static Asked noTexts() {
+    Asked x = asked("", "", "", IN).sheet(0, 0, '1', '2').sheet(1, 1, '3', '4').sheet(2, 2, 'e', 'd').sheet(3, 2, 300);
+    x.call("copy", 0, 0, 1, 0, 1);
+    return x;
   }
 
   /** Sheets 0 of 3 bytes, 1 of 2 shorts, 2 of 4 ints, 3 lost; the latest finding is SIZE. */
