@@ -5,6 +5,8 @@ import java.lang.reflect.Method;
 import java.lang.reflect.Modifier;
 import java.nio.file.Files;
 import java.nio.file.Path;
+import java.util.ArrayList;
+import java.util.List;
 import java.util.Set;
 import java.util.TreeSet;
 import java.util.regex.Matcher;
@@ -27,7 +29,7 @@ public final class FormTests {
       "int lose(int)", "int put(int,int,int,int)", "int get(int,int,int)", "int copy(int,int,int,int,int)", "int write(int,int)",
       "int read(int,int)", "int count(int)", "long digest()"};
 
-  private static void face() {
+  private static void face() throws Exception {
     Set<String> methods = new TreeSet<>(), names = new TreeSet<>(), due = new TreeSet<>(Set.of(FACE));
     for (Method m : UnnestPlans.class.getDeclaredMethods()) {
       if (Modifier.isPrivate(m.getModifiers())) continue;
@@ -44,14 +46,48 @@ public final class FormTests {
     Set<String> fields = new TreeSet<>();
     for (Field f : UnnestPlans.class.getDeclaredFields()) if (!Modifier.isPrivate(f.getModifiers())) fields.add(f.getName());
     hold(fields.equals(Set.of("NONE", "BAD", "NOT", "FULL")), "the constants of the face: " + fields);
+    String[] constants = {"NONE", "BAD", "NOT", "FULL"};
+    for (int i = 0; i < 4; i++) {
+      Field f = UnnestPlans.class.getDeclaredField(constants[i]);
+      hold(f.getModifiers() == (Modifier.PUBLIC | Modifier.STATIC | Modifier.FINAL) && f.getType() == int.class, "a public constant, an int: " + f);
+      hold(f.getInt(null) == -1 - i, "the value of " + f);
+    }
     Constructor<?>[] made = UnnestPlans.class.getDeclaredConstructors();
     hold(made.length == 1 && made[0].getParameterCount() == 0 && Modifier.isPublic(made[0].getModifiers()), "one public constructor");
-    hold(Modifier.isFinal(UnnestPlans.class.getModifiers()), "a final class");
+    hold(Modifier.isFinal(UnnestPlans.class.getModifiers()) && Modifier.isPublic(UnnestPlans.class.getModifiers()), "a public, final class");
+    hold(UnnestPlans.class.getPackageName().isEmpty() && UnnestPlans.class.getInterfaces().length == 0, "no package, no interface");
     for (Class<?> c : UnnestPlans.class.getDeclaredClasses()) {
       hold(Modifier.isStatic(c.getModifiers()) && !Modifier.isPublic(c.getModifiers()), "static classes inside: " + c);
       for (Method m : c.getDeclaredMethods()) hold(!names.contains(m.getName()), "a method inside with a public one's name: " + m);
     }
     hold(UnnestPlans.class.getDeclaredClasses().length <= 12, "at most some twelve classes");
+  }
+
+  /** Rule 11, and rule 5: static fields are final. */
+  private static void sizes() throws Exception {
+    List<Class<?>> classes = new ArrayList<>(List.of(UnnestPlans.class.getDeclaredClasses()));
+    classes.add(UnnestPlans.class);
+    for (Class<?> c : classes) {
+      int own = 0;
+      for (Field f : c.getDeclaredFields()) {
+        hold(!Modifier.isStatic(f.getModifiers()) || Modifier.isFinal(f.getModifiers()), "static fields are final: " + f);
+        if (!Modifier.isStatic(f.getModifiers())) own++;
+      }
+      hold(own <= 20, "some twenty fields: " + c + " has " + own);
+      for (Method m : c.getDeclaredMethods()) hold(m.getParameterCount() <= 7, "at most seven parameters: " + m);
+    }
+    List<String> lines = Files.readAllLines(Path.of("src/main/java/UnnestPlans.java"));
+    Pattern begins = Pattern.compile("^( {4}| {8})(?! |if |for |while |switch |do |else )[\\w\\[\\] ]+\\(.*\\) \\{$");
+    int methods = 0;
+    for (int i = 0; i < lines.size(); i++) {
+      Matcher m = begins.matcher(lines.get(i));
+      if (!m.matches()) continue;
+      methods++;
+      int ends = i;
+      while (ends < lines.size() && !lines.get(ends).equals(m.group(1) + "}")) ends++;
+      hold(ends - i < 60, "methods stay short: " + lines.get(i).trim());
+    }
+    hold(methods > 26, "methods were found: " + methods);
   }
 
   private static void words() throws Exception {
@@ -102,6 +138,7 @@ public final class FormTests {
 
   public static void main(String[] args) throws Exception {
     face();
+    sizes();
     words();
     room();
     System.out.println(wrong == 0 ? "the form is as due" : wrong + " things are not as due");
